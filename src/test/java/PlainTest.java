@@ -23,7 +23,7 @@ public final class PlainTest {
 
     public static void main(String[] args) {
         long first = args.length > 0 ? Long.parseLong(args[0]) : 1;
-        long runs = args.length > 1 ? Long.parseLong(args[1]) : 150;
+        long runs = args.length > 1 ? Long.parseLong(args[1]) : 600;
         Due due = new Due();
         for (long seed = first; seed < first + runs && !due.hasWrong(); seed++) {
             new PlainTest(due, seed).run();

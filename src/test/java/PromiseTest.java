@@ -25,6 +25,7 @@ public final class PromiseTest {
         feed();
         end();
         fault();
+        faultOfOthersThere();
         faultOfBars();
         faultOfMany();
         sheet();
@@ -147,7 +148,10 @@ public final class PromiseTest {
         faultIs("voter 007 1;", NONE);
         faultIs("voter " + times(200, "0") + "9 1;", NONE);
         faultIs("voter 4294967296 1;", 6);
+        faultIs("voter 100 1;", 6);
         faultIs("voter 1 100;", 8);
+        faultIs("place 100 1;voter 1 1;", 6);
+        faultIs("voterz 1 1;", 0);
         faultIs("voter 1;", 7);
         faultIs("voter 1 1", 9);
         faultIs("voter 1 1 ", 10);
@@ -181,6 +185,18 @@ public final class PromiseTest {
         faultIs("stretch 1;", 9);
         faultIs("by 1;", 0);
         faultIs("7", 0);
+    }
+
+    /** A TOKEN that can't stand there is the FAULT, though it could begin what comes next. */
+    private static void faultOfOthersThere() {
+        String other = "voter 1 1;";
+        String[] broken = {"near ", "near side ", "stretch ", "stretch 1 ", "stretch 1 1 ", "voter ", "voter 1 ",
+            "voter 1 1 ", "voter 1 1 by ", "voter 1 1 by 1 ", "place ", "place 1 ", "place 1 1 ", "win ", "win more ",
+            "win over ", "win over 1 ", "win over 1 / ", "win least 1 / 1 "};
+        for (String start : broken) {
+            faultIs(start + other, start.length());
+            faultIs(start, start.length());
+        }
     }
 
     private static void faultOfBars() {
@@ -716,6 +732,11 @@ public final class PromiseTest {
             due("make(" + what + ")", m.make(what), want[what]);
             due("tried move by move", m.make(what), tried[what]);
         }
+        // From (9, 0) to (0, 0) is 81, but the ring stays.
+        String nearer = RING.replace("voter 10 0;", "voter 9 0;");
+        for (int what = 0; what < 3; what++) {
+            due("not the nearest PLACE " + what, Due.of(nearer).make(what), want[what]);
+        }
         due("others", m.make(3), NONE);
         due("others", m.make(-1), NONE);
         due("without PLACES", Due.of("voter 1 1;").make(0), NONE);
@@ -790,6 +811,12 @@ public final class PromiseTest {
         MiddleSheet corner = Due.of("voter 99 99;place 99 99;place 99 93;");
         due("3 from the corner", corner.doubt(0, 2), 2);
         due("alike at 3", corner.doubt(0, 3), 1);
+        // One step over the edge he would be alike to both, or for the other; there is no such POINT.
+        String[] edges = {"voter 99 50;place 90 50;place 99 61;", "voter 50 99;place 50 90;place 61 99;",
+            "voter 0 50;place 9 50;place 0 61;", "voter 50 0;place 50 9;place 61 0;"};
+        for (String over : edges) {
+            due("not over the edge: " + over, Due.of(over).doubt(0, 1), 2);
+        }
         // Those to whom both are alike wherever they are count on neither side.
         MiddleSheet alike = Due.of("voter 0 0;near line;voter 50 50 by 9;place 0 0;place 0 50;");
         due("who is alike at all", alike.doubt(1, 1), 0);
