@@ -1167,7 +1167,7 @@ public final class MiddleSheet {
 
         private boolean isMiddle(long atX, long atY, long by) {
             for (int v = 0; v < sheet.voters; v++) {
-                if (isSplitBadly(atX, atY, by, v)) {
+                if (isCrowdedFrom(v, atX, atY, by)) {
                     return false;
                 }
             }
@@ -1175,35 +1175,23 @@ public final class MiddleSheet {
         }
 
         /**
-         * Whether a line through the place, turned a little away from a VOTER either way, has too much
-         * on one side. Between such turns the sides never change, so no other lines need be tried.
+         * Whether a VOTER and all from him to the left, up to half a turn, are too many: a line through the place
+         * has just these on one side. Where any line has too many on a side, these are so from the first of them on.
          */
-        private boolean isSplitBadly(long atX, long atY, long by, int v) {
+        private boolean isCrowdedFrom(int v, long atX, long atY, long by) {
             long toX = by * sheet.x[v] - atX;
             long toY = by * sheet.y[v] - atY;
-            if (toX == 0 && toY == 0) {
-                return false;
-            }
-            int left = 0;
-            int right = 0;
-            int ahead = 0;
-            int behind = 0;
+            int aside = 0;
             for (int u = 0; u < sheet.voters; u++) {
                 long otherX = by * sheet.x[u] - atX;
                 long otherY = by * sheet.y[u] - atY;
                 long turn = toX * otherY - toY * otherX;
                 long along = toX * otherX + toY * otherY;
-                if (turn > 0) {
-                    left += sheet.weight[u];
-                } else if (turn < 0) {
-                    right += sheet.weight[u];
-                } else if (along > 0) {
-                    ahead += sheet.weight[u];
-                } else if (along < 0) {
-                    behind += sheet.weight[u];
+                if (turn > 0 || (turn == 0 && along > 0)) {
+                    aside += sheet.weight[u];
                 }
             }
-            return sheet.isMoreThanHalf(Math.max(left, right) + Math.max(ahead, behind));
+            return sheet.isMoreThanHalf(aside);
         }
 
         private void insert(long atX, long atY, long by) {
@@ -1759,11 +1747,10 @@ public final class MiddleSheet {
             fillWays(v, sheet.x[v], sheet.y[v], waysBefore);
             fillWays(v, sheet.placeX[place], sheet.placeY[place], waysBehind);
             for (int q = 0; q < sheet.places; q++) {
-                int wasLost = waysBefore[q] < waysBefore[place] ? sheet.weight[v] : 0;
-                int stillLost = waysBehind[q] < waysBehind[place] ? sheet.weight[v] : 0;
                 int hadWon = waysBefore[place] < waysBefore[q] ? sheet.weight[v] : 0;
                 int hasWon = waysBehind[place] < waysBehind[q] ? sheet.weight[v] : 0;
-                lost[v * MOST_PLACES + q] = wasLost - stillLost;
+                // Who is at the PLACE is RATHER for no other one.
+                lost[v * MOST_PLACES + q] = waysBefore[q] < waysBefore[place] ? sheet.weight[v] : 0;
                 won[v * MOST_PLACES + q] = hasWon - hadWon;
             }
         }

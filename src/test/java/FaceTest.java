@@ -1,3 +1,4 @@
+import java.lang.management.ManagementFactory;
 import java.lang.reflect.Constructor;
 import java.lang.reflect.Field;
 import java.lang.reflect.InvocationTargetException;
@@ -27,8 +28,11 @@ public final class FaceTest {
 
     public static void main(String[] args) throws Exception {
         askFace();
+        askClassesInside();
         askOddArguments();
         askRules();
+        askLengths();
+        askRoom();
         DUE.close();
     }
 
@@ -55,6 +59,30 @@ public final class FaceTest {
         for (Field f : face.getDeclaredFields()) {
             boolean constant = f.getName().equals("NONE") || f.getName().equals("VOID");
             DUE.is(f + " is private", Modifier.isPrivate(f.getModifiers()), !constant);
+        }
+    }
+
+    /** Rules 1, 2 and 11: what the classes inside may be, and how much they may hold. */
+    private static void askClassesInside() {
+        TreeSet<String> names = new TreeSet<>();
+        for (String method : METHODS) {
+            names.add(method.substring(method.indexOf(' ') + 1, method.indexOf('(')));
+        }
+        for (Class<?> inside : MiddleSheet.class.getDeclaredClasses()) {
+            int modifiers = inside.getModifiers();
+            DUE.is(inside + " is static", Modifier.isStatic(modifiers), true);
+            DUE.is(inside + " is hidden", Modifier.isPublic(modifiers) || Modifier.isProtected(modifiers), false);
+            int fields = 0;
+            for (Field f : inside.getDeclaredFields()) {
+                boolean shared = Modifier.isStatic(f.getModifiers());
+                fields += shared ? 0 : 1;
+                DUE.is(f + " is final if static", !shared || Modifier.isFinal(f.getModifiers()), true);
+            }
+            DUE.is(inside + " has " + fields + " fields", fields <= 20, true);
+            for (Method m : inside.getDeclaredMethods()) {
+                DUE.is(m + " has a name of the face", names.contains(m.getName()), false);
+                DUE.is(m + " takes at most seven", m.getParameterCount() <= 7, true);
+            }
         }
     }
 
@@ -121,5 +149,63 @@ public final class FaceTest {
         DUE.is("imports", source.split("\\bimport\\b", -1).length - 1, 1);
         DUE.is("import of Arrays", source.contains("import java.util.Arrays;"), true);
         DUE.is("classes", source.split("\\bclass\\b", -1).length - 1 <= 12, true);
+    }
+
+    /** Rule 11: methods stay short. They begin and end at their own indents. */
+    private static void askLengths() throws Exception {
+        int from = 0;
+        int number = 0;
+        for (String line : Files.readAllLines(Path.of("src/main/java/MiddleSheet.java"))) {
+            number++;
+            boolean begins = line.matches("( {4}| {8})[a-zA-Z].*\\) \\{");
+            boolean ends = line.matches("( {4}| {8})\\}");
+            from = begins ? number : from;
+            if (ends && from > 0) {
+                DUE.is("the method at line " + from + " stays short", number - from < 60, true);
+                from = 0;
+            }
+        }
+    }
+
+    /** All calls of one run live in one room: the dearest calls again and again make nothing new. */
+    private static void askRoom() {
+        String text = "win over 1/2;" + "voter 3 4 by 2;voter 50 7;voter 9 80 by 3;".repeat(5) + "place 5 6;place 7 8;".repeat(10);
+        dearestCalls(Due.of(text));
+        long before = allocated();
+        MiddleSheet m = new MiddleSheet();
+        long made = allocated() - before;
+        DUE.is("the constructor makes " + made + " bytes", made < 40000, true);
+        Due.write(m, text);
+        m.sheet();
+        dearestCalls(m);
+        before = allocated();
+        for (int n = 0; n < 10; n++) {
+            dearestCalls(m);
+        }
+        long more = allocated() - before;
+        DUE.is("calls again make " + more + " bytes", more < 1000, true);
+    }
+
+    private static long allocated() {
+        return ((com.sun.management.ThreadMXBean) ManagementFactory.getThreadMXBean()).getCurrentThreadAllocatedBytes();
+    }
+
+    private static void dearestCalls(MiddleSheet m) {
+        m.move(0, 1, 1);
+        m.round(0);
+        m.middle(0, 0);
+        m.proof(0);
+        m.winSet(50, 50, 1);
+        m.piece(9, 9, 0, 0);
+        m.most(80, 80);
+        m.between(0, 1);
+        m.led(0, 1, 0);
+        m.best(0);
+        m.lot(0);
+        m.make(0);
+        m.join(0);
+        m.doubt(0, 5);
+        m.fault();
+        m.undo();
     }
 }
