@@ -812,17 +812,13 @@ public final class MiddleSheet {
                 }
             } else if (isDigit(start)) {
                 kind = NUMBER;
-                readDigits();
+                value = 0;
+                while (behind < length && isDigit(behind)) {
+                    value = Math.min(TOO_GREAT, value * 10 + text[behind] - '0');
+                    behind++;
+                }
             } else {
                 kind = signAt(start);
-                behind++;
-            }
-        }
-
-        private void readDigits() {
-            value = 0;
-            while (behind < length && isDigit(behind)) {
-                value = Math.min(TOO_GREAT, value * 10 + text[behind] - '0');
                 behind++;
             }
         }
@@ -1104,8 +1100,8 @@ public final class MiddleSheet {
 
     /** MIDDLES, or the PROOF that there is none. */
     private static final class Middles {
-        // MIDDLES are corners of one region whose edges lie on at most 105 lines.
-        private static final int MOST = 256;
+        // Unless all VOTERS are in a row, and only their own POINTS are asked, there is at most one.
+        private static final int MOST = MOST_VOTERS;
 
         private final Sheet sheet;
         private final Lines lines;

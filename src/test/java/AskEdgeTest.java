@@ -752,13 +752,23 @@ public final class AskEdgeTest {
         rowIs("(0, 99)", new int[] {0, 99, 1, 2}, what -> Due.of("voter 0 99;voter 1 99;voter 0 98;").round(what));
         rowIs("(99, 0)", new int[] {99, 0, 1, 2}, what -> Due.of("voter 99 0;voter 98 0;voter 99 1;").round(what));
         rowIs("(0, 0)", new int[] {0, 0, 1, 2}, what -> Due.of("voter 0 0;voter 1 0;voter 0 1;").round(what));
+        // At (100, 46) the greatest square would be 9 by 2; the same at the other three sides.
+        rowIs("x 99", new int[] {99, 46, 8, 1},
+                what -> Due.of("voter 98 41;voter 99 48;voter 99 42;voter 98 48;").round(what));
+        roundIs("voter 1 41;voter 0 48;voter 0 42;voter 1 48;");
+        roundIs("voter 41 98;voter 48 99;voter 42 99;voter 48 98;");
+        roundIs("voter 41 1;voter 48 0;voter 42 0;voter 48 1;");
     }
 
     /** p by q without a common part; 0 by 1 where all lines meet in a POINT. */
     private static void roundWithoutCommonPart() {
         rowIs("all meet", new int[] {5, 5, 0, 1}, what -> Due.of("voter 5 5 by 4;voter 0 0;voter 9 1;voter 1 8;").round(what));
         // To 2 x = 3 y, or x = y, whose squares are 13 and 2 below: worked out by all POINTS.
-        String text = "voter 0 0;voter 3 2;voter 10 0;voter 0 9;voter 6 6;";
+        roundIs("voter 0 0;voter 3 2;voter 10 0;voter 0 9;voter 6 6;");
+    }
+
+    /** As found by asking all POINTS. */
+    private static void roundIs(String text) {
         long[] want = roundest(Due.of(text));
         DUE.is("x", Due.of(text).round(0), want[0]);
         DUE.is("y", Due.of(text).round(1), want[1]);
@@ -1386,6 +1396,7 @@ public final class AskEdgeTest {
         makeTimesWeight();
         makeWhereHeIs();
         makeWithoutSuchMove();
+        makeOfThoseAlikeToBoth();
         makeIsCrowWithoutStretch();
         makeMovesNobody();
         joinOfTheFirstNine();
@@ -1455,6 +1466,14 @@ public final class AskEdgeTest {
         }
         rowIs("no PLACES", new int[] {NONE, NONE, NONE}, what -> Due.of("voter 1 1;").make(what));
         rowIs("of nothing", new int[] {NONE, NONE, NONE}, what -> new MiddleSheet().make(what));
+    }
+
+    /** To whom two PLACES were alike had no part in FOR: the bar isn't met by less without him. */
+    private static void makeOfThoseAlikeToBoth() {
+        rowIs("least 1/2", new int[] {0, 1, 4}, what -> Due.of("win least 1/2;near side;voter 4 6;voter 0 5;near crow;"
+                + "voter 0 3;near street;voter 4 3;near side;voter 6 6;place 0 1;place 6 6;place 4 0;").make(what));
+        rowIs("over 1/2", new int[] {3, 1, 4}, what -> Due.of("win over 1/2;voter 2 3;voter 2 3;near side;voter 3 2;"
+                + "voter 0 0;voter 2 0;place 4 1;place 0 2;place 2 0;place 1 0;").make(what));
     }
 
     /** Crow, without stretch, whatever his measure. */
