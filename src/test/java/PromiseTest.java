@@ -673,6 +673,14 @@ public final class PromiseTest {
         due("of the first 8", nine.lot(0), 1);
         due("share 7", nine.lot(7), 0);
         due("share 8", nine.lot(8), NONE);
+        // Each of four gains 1 against the next one and nothing against the one across: any shares of two across have
+        // gains 0 there, and three or four of them have no shares above 0, or many.
+        MiddleSheet four = Due.of("voter 2 1;voter 0 0;voter 0 2;place 1 2;place 2 2;place 1 0;place 2 0;");
+        for (int i = 0; i < 4; i++) {
+            due("gain of " + i + " against the next", four.votes(i, (i + 1) % 4) - four.votes((i + 1) % 4, i), 1);
+            due("gain of " + i + " across", four.votes(i, (i + 2) % 4) - four.votes((i + 2) % 4, i), 0);
+        }
+        due("no LOTS of a ring of four", four.lot(NONE), NONE);
         // At PLACES 2 and 3 many shares are possible, and just one is nowhere.
         MiddleSheet many = Due.of("voter 4 0 by 2;voter 1 2;voter 0 4 by 2;near street;voter 4 4 by 2;voter 4 3 by 2;"
                 + "voter 0 2 by 2;voter 0 3 by 2;voter 3 2;near side;voter 2 0;"
